@@ -338,7 +338,8 @@ public final class PulseTurns {
     }
 
     private int certain() {
-        if (!goesTo(0)) {
+        numberings.begin(now);
+        if (!numberings.next()) {
             return 0;
         }
         int same = (1 << now.size) - 1;
@@ -518,13 +519,13 @@ public final class PulseTurns {
             awaited = ITEM;
             boxTold = false;
             items = 0;
-            for (int from = 0; from < length; from++) {
-                if (letters[from] != ' ') {
-                    int last = lastOfToken(from);
-                    if (!takes(letters[from], valueOf(from, last), told)) {
-                        return -10 - from;
+            int last = -1;
+            for (int at = 0; at < length; at++) {
+                if (at > last && letters[at] != ' ') {
+                    last = lastOfToken(at);
+                    if (!takes(letters[at], valueOfToken(at, last), told)) {
+                        return -10 - at;
                     }
-                    from = last;
                 }
             }
             return awaited == ITEM ? items : -10 - length;
@@ -543,7 +544,7 @@ public final class PulseTurns {
         }
 
         /** Below 0, if the token is no number that can stand anywhere. */
-        private int valueOf(int from, int last) {
+        private int valueOfToken(int from, int last) {
             if (!isDigit(from) || letters[from] == '0' && last > from) {
                 return -1;
             }

@@ -391,7 +391,7 @@ public final class ModelTest {
         }
 
         int held(int gap, int what) {
-            if (gap < 0 || gap + 1 >= now.times.size() || what < 0 || what > 2) {
+            if (gap < 0 || gap >= now.times.size() - 1 || what < 0 || what > 2) {
                 return BAD;
             }
             TreeSet<Integer> all = new TreeSet<>();
@@ -539,10 +539,11 @@ public final class ModelTest {
             return random.nextInt(n);
         }
 
-        /** A number from low to high, now and then just outside. */
+        /** A number from low to high, now and then just outside or far away. */
         int around(int low, int high) {
             if (below(15) == 0) {
-                return below(2) == 0 ? low - 1 : high + 1;
+                int[] outside = {low - 1, high + 1, low - 1, high + 1, Integer.MIN_VALUE, Integer.MAX_VALUE};
+                return outside[below(outside.length)];
             }
             return low + below(high - low + 1);
         }
@@ -567,9 +568,10 @@ public final class ModelTest {
 
         int[] someBox() {
             int low = below(12) == 0 ? around(10, 999) : leastLow + below(150);
-            int high = below(12) == 0 ? around(10, 999) : below(8) == 0 ? low : low + below(3 * low);
+            int wide = below(8) == 0 ? 0 : below(3 * Math.max(1, Math.min(low, 999)));
+            int high = below(12) == 0 ? around(10, 999) : low + wide;
             int slack = below(12) == 0 ? around(0, 99) : below(Math.max(1, (low + 3) / 4));
-            period = Math.max(10, low + (high - low) * random.nextDouble());
+            period = Math.min(999, Math.max(10, low + (high - low) * random.nextDouble()));
             return new int[] {low, high, slack};
         }
 
@@ -610,7 +612,7 @@ public final class ModelTest {
         /** Arrivals that one period bears out, or nearly so. */
         String soundText() {
             int[] b = someBox();
-            int slack = Math.max(0, b[2]);
+            int slack = Math.max(0, Math.min(99, b[2]));
             StringBuilder s = new StringBuilder("b" + b[0] + " " + b[1] + " " + b[2] + ";");
             int from = below(500);
             int turns = (int) ((2999 - from) / period);
@@ -686,8 +688,8 @@ public final class ModelTest {
         void askPairs() {
             int n = Math.max(1, arrivals());
             int i = around(0, n - 1);
-            int j = around(Math.min(i + 1, n - 1), n - 1);
-            int k = around(Math.min(j + 1, n - 1), n - 1);
+            int j = around(Math.max(0, Math.min(i, n - 2) + 1), n - 1);
+            int k = around(Math.max(0, Math.min(j, n - 2) + 1), n - 1);
             int way = around(0, 1);
             int of = around(0, 2);
             due("counts(" + i + ", " + j + ", " + way + ", " + of + ")",
