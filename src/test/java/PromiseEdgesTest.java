@@ -302,12 +302,15 @@ public final class PromiseEdgesTest {
             Due.is("narrowed of none", none().narrowed(what), want[0][what]);
             Due.is("narrowed of EMPTY", empty().narrowed(what), want[1][what]);
         }
-        // Two turns, 302 less 4 to 302 and 4: 298 by 2 is 149.
-        PulseTurns x = Due.told("b140 160 2;t0;t302;");
-        Due.is("least terms", x.narrowed(0), 149);
-        Due.is("least terms", x.narrowed(1), 1);
-        Due.is("least terms", x.narrowed(2), 153);
-        Due.is("least terms", x.narrowed(3), 1);
+        // Two turns, 298 by 2 to 306 by 2; ten turns, 1004 by 10; 1496 by 10.
+        String[] told = {"b140 160 2;t0;t302;", "t0;t100;t1000;", "b140 150 2;t0;t150;t1500;"};
+        int[][] leastTerms = {{149, 1, 153, 1}, {100, 1, 502, 5}, {748, 5, 150, 1}};
+        for (int i = 0; i < told.length; i++) {
+            for (int what = 0; what < 4; what++) {
+                String call = "(" + what + ") of " + told[i];
+                Due.is("narrowed" + call, Due.told(told[i]).narrowed(what), leastTerms[i][what]);
+            }
+        }
         refusedAlways("narrowed(4)", y -> y.narrowed(4), BAD);
         refusedAlways("narrowed(-1)", y -> y.narrowed(-1), BAD);
         refused("narrowed(0) of EMPTY", PromiseEdgesTest::empty, y -> y.narrowed(0), NONE);
@@ -356,11 +359,14 @@ public final class PromiseEdgesTest {
             }
         }
         PulseTurns x = Due.told("t0;t450;");
+        PulseTurns ten = Due.told("t0;t100;t1000;");
         int[][] want = {{446, 3, 454, 3}, {223, 2, 227, 2}, {NONE, NONE, NONE, NONE}};
-        for (int k = 0; k < 3; k++) {
-            for (int what = 0; what < 4; what++) {
+        int[] wantOfTen = {100, 1, 502, 5};
+        for (int what = 0; what < 4; what++) {
+            for (int k = 0; k < 3; k++) {
                 Due.is("box(" + k + ", " + what + ")", x.box(k, what), want[k][what]);
             }
+            Due.is("least terms: box(0, " + what + ")", ten.box(0, what), wantOfTen[what]);
         }
         refusedAlways("box(-1, 0)", y -> y.box(-1, 0), BAD);
         refusedAlways("box(0, 4)", y -> y.box(0, 4), BAD);

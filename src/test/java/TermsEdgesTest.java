@@ -8,6 +8,8 @@ public final class TermsEdgesTest {
     private static final int BAD = Due.BAD, STATE = Due.STATE, FULL = Due.FULL, NONE = Due.NONE, NO = Due.NO;
     private static final int LEAST = Integer.MIN_VALUE, GREATEST = Integer.MAX_VALUE;
     private static final String SEVEN = "b10 10 2;t0;t10;t20;t30;t40;t50;t60;";
+    private static final String SEVEN_BY_TWO = "t0;t450;t900;t1350;t1800;t2250;t2700;";
+    private static final String FOUR_STAND = "b100 200 9;t0;t150;t2400;";
     private static final String NONE_STANDS = "t0;t50;t100;";
 
     // ---- 1: arrivals, the box, slack
@@ -180,7 +182,9 @@ public final class TermsEdgesTest {
         Due.is("97 blanks and an item", fullText(" ".repeat(97) + "t5;").heard(), 1);
         Due.is("it ends too early", fullText("t5").heard(), -110);
         Due.is("the last letter is the fault", fullText(" ".repeat(99) + ";").heard(), -109);
-        Due.is("the last letter is awaited no more", fullText(" ".repeat(99) + "t").heard(), -110);
+        Due.is("the last letter wants more", fullText(" ".repeat(99) + "t").heard(), -110);
+        Due.is("the last letter is a number's", fullText("t" + " ".repeat(98) + "5").heard(), -110);
+        Due.is("the last letter is a number's, the fault", fullText(" ".repeat(99) + "5").heard(), -109);
     }
 
     private static void blanks() {
@@ -326,6 +330,9 @@ public final class TermsEdgesTest {
         standing("b100 100 2;t0;t104;t199;", 0);
         standing("b100 100 2;t0;t96;t200;", 1);
         standing("b100 100 2;t0;t96;t201;", 0);
+        // Three turns, or four, of 446 by 3, or by 4: then arrivals 0 and 1 just fit, and so do 1 and 2.
+        standing("t0;t450;t892;", 2);
+        standing("t0;t450;t891;", 0);
     }
 
     private static void box(String letters, int k, int... want) {
@@ -354,7 +361,7 @@ public final class TermsEdgesTest {
             Due.is("number(" + k + ", 1)", one.number(k, 1), 5 + k);
         }
         Due.is("number(5, 1)", one.number(5, 1), NONE);
-        PulseTurns two = Due.told("b100 200 9;t0;t150;t2400;");
+        PulseTurns two = Due.told(FOUR_STAND);
         for (int k = 0; k < 4; k++) {
             Due.is("number(" + k + ", 1)", two.number(k, 1), 1);
             Due.is("number(" + k + ", 2)", two.number(k, 2), 15 + k);
@@ -409,6 +416,9 @@ public final class TermsEdgesTest {
         narrowed("t0;t150;t1050;", 1046, 7, 1054, 7);
         // What the last two cut leaves the first two one count.
         narrowed("t0;t900;t1050;", 1046, 7, 1054, 7);
+        // The last two cut at LOW's end alone, then at HIGH's alone.
+        narrowed("b110 200 2;t0;t980;t1178;", 587, 3, 984, 5);
+        narrowed("b110 200 2;t0;t565;t677;", 561, 5, 227, 2);
         Due.sentence("EMPTY, if nothing is left, or two have no COUNT.");
         narrowed("t0;t96;", 100, 1, 100, 1);
         narrowed("t0;t95;", NONE, NONE, NONE, NONE);
@@ -513,14 +523,15 @@ public final class TermsEdgesTest {
         standing("t0;t450;", 2);
         standing("t0;t95;", 0);
         standing(SEVEN, 1);
+        standing(SEVEN_BY_TWO, 2);
         standing("b10 999 0;t0;t2999;", 296);
     }
 
     private static void certain() {
         Due.sentence("CERTAIN: ARRIVALS (bits) that have the same number in all that STAND (0: none STANDS).");
         String[] told = {"", "t5;", "t0;t150;", "t0;t450;", "t0;t95;", NONE_STANDS, SEVEN,
-            "t0;t150;t300;", "t0;t450;t900;", "b100 200 9;t0;t150;t2400;"};
-        int[] want = {0, 1, 3, 1, 0, 0, 127, 7, 1, 3};
+            "t0;t150;t300;", "t0;t450;t900;", FOUR_STAND, SEVEN_BY_TWO};
+        int[] want = {0, 1, 3, 1, 0, 0, 127, 7, 1, 3, 1};
         for (int i = 0; i < told.length; i++) {
             Due.is("CERTAIN of " + told[i], Due.told(told[i]).count(5), want[i]);
         }
@@ -530,9 +541,10 @@ public final class TermsEdgesTest {
         Due.sentence("HELD of a gap k (from ARRIVAL k to the next one): COUNTS that it has in any NUMBERING that"
             + " STANDS: how many, the least, the greatest.");
         String[] told = {"t0;t450;", "t0;t95;", "t0;t150;", "b20 60 0;t0;t60;t180;", "b20 60 0;t0;t60;t180;",
-            "b10 999 0;t0;t2999;", SEVEN};
-        int[] gap = {0, 0, 0, 0, 1, 0, 5};
-        int[][] want = {{2, 3, 4}, {0, NONE, NONE}, {1, 1, 1}, {3, 1, 3}, {3, 2, 6}, {296, 4, 299}, {1, 1, 1}};
+            "b10 999 0;t0;t2999;", SEVEN, FOUR_STAND, FOUR_STAND};
+        int[] gap = {0, 0, 0, 0, 1, 0, 5, 0, 1};
+        int[][] want = {{2, 3, 4}, {0, NONE, NONE}, {1, 1, 1}, {3, 1, 3}, {3, 2, 6}, {296, 4, 299}, {1, 1, 1},
+            {1, 1, 1}, {4, 14, 17}};
         for (int i = 0; i < told.length; i++) {
             for (int what = 0; what < 3; what++) {
                 String call = "held(" + gap[i] + ", " + what + ") of " + told[i];
@@ -611,6 +623,8 @@ public final class TermsEdgesTest {
         // One turn, heard 4 too early at the most.
         listen("b10 10 2;t0;", 6);
         listen("b10 10 2;t0;t10;t20;t30;t40;t50;", 56);
+        // Arrival 1 came late by 4: what fits arrival 0 from 196 on, fits it from 200 on.
+        listen("b100 100 2;t0;t104;", 200);
         Due.sentence("the one by which fewest, but some, would STAND, of several the first; NONE (there is none"
             + " such).");
         listen("b50 100 0;t0;", 50);
@@ -623,6 +637,12 @@ public final class TermsEdgesTest {
         listen("t0;t95;", NONE);
         listen(NONE_STANDS, NONE);
         listen("t0;t150;t300;", NONE);
+        PulseTurns again = Due.told("b50 60 0;t0;");
+        Due.is("listen()", again.listen(), 50);
+        again.boxes(70, 80, 0);
+        Due.is("listen() by another box", again.listen(), 70);
+        again.boxes(200, 300, 0);
+        Due.is("listen() by a box too far", again.listen(), NONE);
     }
 
     private static void odds(String letters, int x, int upper, int lower) {
