@@ -698,27 +698,31 @@ public final class PulseTurns {
         /** Becomes the narrowed box; whether anything is left. */
         boolean narrow(Hearing hearing) {
             spread(hearing.low, hearing.high);
+            boolean changed = true;
             // Two arrivals that have one count keep it, so each two cut once at most.
-            for (int round = 0; round <= MOST_ARRIVALS * MOST_ARRIVALS; round++) {
-                boolean changed = false;
+            for (int round = 0; round <= MOST_ARRIVALS * MOST_ARRIVALS && changed; round++) {
+                changed = false;
                 for (int j = 1; j < hearing.size; j++) {
                     for (int i = 0; i < j; i++) {
-                        int least = leastCount(hearing, i, j);
-                        int greatest = greatestCount(hearing, i, j);
-                        if (least > greatest) {
+                        if (leastCount(hearing, i, j) > greatestCount(hearing, i, j)) {
                             return false;
                         }
-                        if (least == greatest) {
-                            int apart = hearing.times[j] - hearing.times[i];
-                            changed |= cut(apart, 2 * hearing.slack, least);
+                        if (cutByTwo(hearing, i, j)) {
+                            changed = true;
                         }
                     }
                 }
-                if (!changed) {
-                    return !isEmpty();
-                }
             }
             return !isEmpty();
+        }
+
+        /** Two arrivals that have just one count cut by it; whether any periods went. */
+        private boolean cutByTwo(Hearing hearing, int i, int j) {
+            int only = leastCount(hearing, i, j);
+            if (only != greatestCount(hearing, i, j)) {
+                return false;
+            }
+            return cut(hearing.times[j] - hearing.times[i], 2 * hearing.slack, only);
         }
 
         /** The upper, the lower number of the least period (0, 1), of the greatest (2, 3). */

@@ -6,7 +6,10 @@ import java.lang.reflect.Modifier;
 import java.nio.file.Files;
 import java.nio.file.Path;
 import java.util.ArrayList;
+import java.util.Arrays;
 import java.util.List;
+import java.util.Map;
+import java.util.TreeMap;
 import java.util.TreeSet;
 import java.util.regex.Matcher;
 import java.util.regex.Pattern;
@@ -91,6 +94,8 @@ public final class LanguageTest {
     private static void source(String path) throws Exception {
         String all = Files.readString(Path.of(path));
         String code = all.replaceAll("(?s)/\\*.*?\\*/", " ").replaceAll("//[^\n]*", " ");
+        loops(code);
+        new CallTree(all.split("\n")).check();
         for (String word : BANNED) {
             due("the word " + word, Pattern.compile("\\b" + word + "\\b").matcher(code).find(), false);
         }
@@ -105,6 +110,18 @@ public final class LanguageTest {
             boolean field = ahead.contains("final") && ahead.contains("=");
             boolean row = ahead.trim().matches("(images\\[i\\]|ring\\[i\\]|leaves\\[a\\]) =");
             due("new behind: " + ahead.trim(), field || row, true);
+        }
+    }
+
+    /** Rule 9: each loop counts against a bound that stands in its own lines. */
+    private static void loops(String code) {
+        Matcher loop = Pattern.compile("\\b(for|while|do)\\b([^\n]*)").matcher(code);
+        String counted = " \\(int (\\w+) = [^;]*; [^;]*\\b\\1 (<|<=|>|>=) [^;]*; \\1(\\+\\+|--)\\) \\{";
+        while (loop.find()) {
+            String head = loop.group(2);
+            boolean bound = loop.group(1).equals("for") ? head.matches(counted)
+                : head.equals(" (many < limit && next()) {");
+            due("a bound of the loop" + head, bound, true);
         }
     }
 
@@ -138,6 +155,97 @@ public final class LanguageTest {
             due("the same calls answer the same", again, sum);
         }
         due("calls make few bytes of objects (" + bytes + ")", bytes < 100, true);
+    }
+
+    /** Rules 8 and 11: how long methods are, how many classes and fields there are, how deep calls go. */
+    private static final class CallTree {
+        private static final int MOST_LINES = 60, MOST_CLASSES = 12, MOST_FIELDS = 20, MOST_DEEP = 8;
+        private static final Pattern CLASS = Pattern.compile("\\bclass (\\w+) \\{");
+        private static final Pattern METHOD =
+            Pattern.compile("(?:(?:public|private|static|int|boolean|void) )*(\\w+)\\([^()]*\\) \\{");
+        private static final Pattern CALL = Pattern.compile("(\\bnew )?(?:(\\w+|\\])\\.)?\\b(\\w+)\\(");
+
+        private final Map<String, List<String>> bodies = new TreeMap<>();
+        private final TreeSet<String> classes = new TreeSet<>();
+
+        CallTree(String[] lines) {
+            String owner = "";
+            List<String> body = null;
+            String closes = "";
+            for (String line : lines) {
+                String words = line.strip();
+                Matcher head = METHOD.matcher(words);
+                Matcher begun = CLASS.matcher(words);
+                if (body != null) {
+                    body.add(words);
+                    body = line.equals(closes) ? null : body;
+                } else if (begun.find()) {
+                    owner = begun.group(1);
+                    classes.add(owner);
+                } else if (head.matches()) {
+                    body = new ArrayList<>(List.of(words));
+                    bodies.put(owner + "." + head.group(1), body);
+                    closes = line.substring(0, line.indexOf(words)) + "}";
+                }
+            }
+        }
+
+        void check() {
+            due("methods found, at least the face", bodies.size() > FACE.length, true);
+            due("at most so many classes", classes.size() <= MOST_CLASSES, true);
+            int deepest = 0;
+            for (Map.Entry<String, List<String>> method : bodies.entrySet()) {
+                due(method.getKey() + " is short", method.getValue().size() <= MOST_LINES, true);
+                deepest = Math.max(deepest, depth(method.getKey(), 1));
+            }
+            due("calls go too deep: " + deepest, deepest > MOST_DEEP, false);
+            due("calls were followed", deepest > 2, true);
+            fields(PulseTurns.class);
+            for (Class<?> c : PulseTurns.class.getDeclaredClasses()) {
+                fields(c);
+            }
+        }
+
+        private static void fields(Class<?> c) {
+            long many = Arrays.stream(c.getDeclaredFields())
+                .filter(f -> !Modifier.isStatic(f.getModifiers())).count();
+            due(c + " has at most so many fields", many <= MOST_FIELDS, true);
+        }
+
+        /** Recursion would go on, so it is let go only a little beyond what is allowed. */
+        private int depth(String method, int level) {
+            int deepest = level;
+            List<String> body = bodies.get(method);
+            for (String line : body.subList(1, body.size())) {
+                Matcher call = CALL.matcher(line);
+                while (level <= MOST_DEEP && call.find()) {
+                    for (String callee : callees(method, call)) {
+                        deepest = Math.max(deepest, depth(callee, level + 1));
+                    }
+                }
+            }
+            return deepest;
+        }
+
+        /** All methods that a call could mean: where the source alone doesn't tell, of any class. */
+        private List<String> callees(String caller, Matcher call) {
+            String name = call.group(3);
+            List<String> owners = new ArrayList<>(classes);
+            if (call.group(1) != null) {
+                owners = List.of(name);
+            } else if (call.group(2) == null) {
+                owners = List.of(caller.substring(0, caller.indexOf('.')), "PulseTurns");
+            } else if (classes.contains(call.group(2))) {
+                owners = List.of(call.group(2));
+            }
+            List<String> found = new ArrayList<>();
+            for (String owner : owners) {
+                if (bodies.containsKey(owner + "." + name)) {
+                    found.add(owner + "." + name);
+                }
+            }
+            return found;
+        }
     }
 
     public static void main(String[] args) throws Exception {
